@@ -337,6 +337,13 @@ public final class ForetoldTest {
         two.shift(1);
         Due.due("one step", two.drawn(1, 1, 0), 201);
         Due.due("two steps", two.drawn(2, 1, 0), 201 + 3 + 201);
+        // Seed 6: X is 100842 (by 4: 2, by 3: 0), RING 0; seed 2: 33614 (by 4: 2, by 3: 2), none.
+        GearRoad rings = Due.bike("b99;k20;k40;k60;p40;s0;");
+        Due.due("to the RING as it is", rings.drawn(1, 6, 0), 201);
+        rings.front(1);
+        rings.front(1);
+        Due.due("to a RING that is not beside", rings.drawn(1, 6, 0), 5 + 201);
+        Due.due("to no RING", rings.drawn(1, 2, 0), 67);
     }
 
     private static void drawnChangesNothing() {
