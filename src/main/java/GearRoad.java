@@ -614,7 +614,7 @@ public final class GearRoad {
         }
 
         private int letterAt(int i) {
-            return within(i, 0, size - 1) ? bytes[i] : END;
+            return i >= 0 && i < size ? bytes[i] : END;
         }
 
         /** The first FAULT counts; what is read behind it does not. */
