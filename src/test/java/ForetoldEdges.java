@@ -335,6 +335,9 @@ final class ForetoldEdges {
         dueShares("one twice", x, 7, 0, 2, 4, 1, 0);
         for (int n = 0; n < 4; n++) x.undo();
         dueShares("undone", x, 999, 0, 0, 0, 0, 0);
+        GearRoad single = Due.bike("b99;k20;p20;r20;s0;");
+        single.shift(1);
+        dueShares("a single TURN", single, 999, 0, 999);
         GearRoad six = Due.bike("b99;k20;p20;p21;p22;p23;p24;r25;s0;");
         for (int cog = 1; cog <= 5; cog++) six.shift(1);
         six.shift(-1);

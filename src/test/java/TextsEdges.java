@@ -220,9 +220,12 @@ final class TextsEdges {
     /** Whatever was foretold of the one before, the new one begins at first. */
     private static void behindForetoldRides() {
         GearRoad x = Due.bike("b99;k20;k21;k22;r20;r20;r20;s0;s0;s0;");
+        x.ride();
         x.front(1);
         x.shift(1);
         for (int seed = 1; seed <= 12; seed++) x.drawn(5, seed, 0);
+        // By 1 the first step is a RIDE alone: it ends on RING 1, COG 1, at PIECE 2.
+        x.drawn(1, 1, 0);
         Due.due("another", Due.read(x, "b8;k21;k22;k23;o12;o12;o12;s7;s7;s7;s7;s7;s7;"), 3);
         for (int i = 5; i <= 8; i++) Due.due("count(" + i + ")", x.count(i), 0);
         for (int cog = 0; cog < 3; cog++) Due.due("TURNED on " + cog, x.cog(cog, 1), 0);
