@@ -514,6 +514,8 @@ final class Model {
         return what == 0 ? cog.size() : cog.mark();
     }
 
+    int fault() { return fault; }
+    int status() { return status; }
     int trace(int i) { return out(i, 0, Math.min(16, trace.size()) - 1) ? NONE : trace.get(i); }
 
     int count(int what) {
